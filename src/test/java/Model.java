@@ -141,7 +141,11 @@ final class Model {
         if (mode < 0 || mode > 3) {
             return false;
         }
-        return on ? modes.add(mode) || true : modes.remove(mode) || true;
+        modes.remove(mode);
+        if (on) {
+            modes.add(mode);
+        }
+        return true;
     }
 
     boolean retries(int kind, int n) {

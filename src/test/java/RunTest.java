@@ -30,11 +30,13 @@ public final class RunTest {
         failFastHopeless();
         testsLast();
         testsLastWaitForRetries();
+        testsLastWaitForRunningOnes();
         testsLastDeadEnd();
         raceFarFirst();
         raceHereFirstAndTies();
         raceCutFrees();
         raceSlots();
+        raceSlotStaysTaken();
         raceFailing();
         raceNotWithoutRoomHere();
         retriesGoBehindGreaterRests();
@@ -108,6 +110,13 @@ public final class RunTest {
         locks.mode(PACK, true);
         CHECKS.due("locks: run()", locks.run(), 10);
         dueBegins("locks", locks, 0, 0, 5, 0);
+        // The LOCK of one that began before another is taken still.
+        RunOrder held = house(16, 0, a(7, 1, 0), a(6, 1, 0), a(5, 1, 0));
+        held.about(0, false, 1, 0);
+        held.about(1, false, 2, 0);
+        held.about(2, false, 1, 0);
+        CHECKS.due("locks held: run()", held.run(), 12);
+        dueBegins("locks held", held, 0, 0, 7);
         RunOrder nothing = house(1, 0, a(9, 1, 0), a(4, 0, 0), a(4, 0, 0));
         CHECKS.due("takes nothing: run()", nothing.run(), 9);
         dueBegins("takes nothing", nothing, 0, 0, 0);
@@ -305,6 +314,15 @@ public final class RunTest {
         dueBegins("tests after retries", x, 9, 0);
     }
 
+    private static void testsLastWaitForRunningOnes() {
+        // At 3 nothing but TESTS WAITS, but 2 runs until 7.
+        RunOrder x = house(4, 0, a(9, 1, 0), a(3, 1, 0), a(7, 1, 0));
+        x.about(0, true, 0, 0);
+        x.mode(TESTS_LAST, true);
+        CHECKS.due("tests after running ones: run()", x.run(), 16);
+        dueBegins("tests after running ones", x, 7, 0, 0);
+    }
+
     private static void testsLastDeadEnd() {
         // 1 is no TEST and NEEDS one, so neither is ever READY.
         RunOrder x = house(4, 0, a(9, 1, 0), a(3, 1, 0), a(2, 1, 0));
@@ -380,6 +398,17 @@ public final class RunTest {
         CHECKS.dueOutcome("slots", x, 2, DONE, 0, 1, 1, 1);
         CHECKS.dueOutcome("slots", x, 3, DONE, 1, 5, 1, 1);
         CHECKS.due("slots again: run()", x.run(), 19);
+    }
+
+    private static void raceSlotStaysTaken() {
+        // 1 ends without ever having had a SLOT, so none is free for 2 at 2.
+        RunOrder x = racing(2, 1, a(20, 1, 0), a(2, 1, 0), a(9, 1, 0));
+        x.about(0, false, 0, 15);
+        x.about(2, false, 0, 1);
+        x.needs(2, 1);
+        CHECKS.due("no SLOT given back: run()", x.run(), 15);
+        CHECKS.dueOutcome("no SLOT given back", x, 0, DONE, 0, 15, 1, 1);
+        CHECKS.dueOutcome("no SLOT given back", x, 2, DONE, 2, 11, 1, 0);
     }
 
     private static void raceFailing() {
