@@ -15,12 +15,14 @@ public final class EdgesTest {
     private static final int FAIL_FAST = 1;
     private static final int PACK = 2;
     private static final int RACE = 3;
+    private static final int[] NO_ACTION_OF_24 = {LEAST, -1, 24, 25, 31, 32, 55, 56, MOST};
 
     private static final Checks CHECKS = new Checks("EdgesTest");
 
     public static void main(String[] args) {
         empty();
         full();
+        fullOfTests();
         lastCallOfAll();
         houseAtItsEdges();
         farTimeAtItsEdges();
@@ -120,7 +122,7 @@ public final class EdgesTest {
         }
         CHECKS.due("full: one more", x.action(5, 1, 1), NONE);
         CHECKS.due("full: one more, not as told", x.action(0, 1, 1), NONE);
-        for (int a : new int[] {LEAST, -1, 24, 25, 31, 32, 55, 56, MOST}) {
+        for (int a : NO_ACTION_OF_24) {
             dueNoAction("full", x, a, 23);
         }
         CHECKS.due("full: wish(23)", x.wish(23, true), true);
@@ -139,6 +141,30 @@ public final class EdgesTest {
         CHECKS.dueOrder("full", x, 22, 23);
         CHECKS.due("full: peak(1)", x.peak(1), 1);
         CHECKS.due("full: still one too many", x.action(5, 1, 1), NONE);
+        // All are WANTED now, and there was a RUN: numbers beyond must not be taken for one of these.
+        for (int i = 0; i < 24; i++) {
+            x.wish(i, true);
+        }
+        for (int a : NO_ACTION_OF_24) {
+            dueNoAction("full, all WANTED", x, a, 23);
+        }
+    }
+
+    /** All 24 of one sort: each look at "no ACTION that is no TEST" goes through every one. */
+    private static void fullOfTests() {
+        RunOrder x = new RunOrder(1, 0);
+        for (int i = 0; i < 24; i++) {
+            x.wish(x.action(2, 1, 0), true);
+            x.about(i, true, 0, 0);
+        }
+        x.mode(TESTS_LAST, true);
+        CHECKS.due("24 tests: run()", x.run(), 48);
+        dueBegins("24 tests", x, 0, 2, 4, 6);
+        x.about(23, false, 0, 0);
+        CHECKS.due("23 tests: run()", x.run(), 48);
+        CHECKS.due("23 tests: the other one is first", x.order(0), 23);
+        CHECKS.due("23 tests: then by numbers", x.order(1), 0);
+        CHECKS.due("23 tests: the last test", x.order(23), 22);
     }
 
     /** "at most 512 calls after it has been made": the 512th answers as the first did. */
